@@ -1,0 +1,71 @@
+/** Promises 28 and 29: the nib and the limit by which the fewest steps are WRONG. */
+public final class BestTest {
+    private static final Checks checks = new Checks("BestTest");
+
+    public static void main(String[] args) {
+        bestNib();
+        bestLimit();
+        checks.end();
+    }
+
+    private static void nibDue(NibLetters x, String told, int u, int v, int wrong) {
+        checks.due(told + ", u", x.bestNib(0), u);
+        checks.due(told + ", v", x.bestNib(1), v);
+        checks.due(told + ", wrong", x.bestNib(2), wrong);
+    }
+
+    private static void bestNib() {
+        NibLetters x = new NibLetters();
+        nibDue(x, "an empty sheet", 0, -6, 0);
+        checks.due("what 3", x.bestNib(3), NibLetters.OUTSIDE);
+        checks.due("what -1", x.bestNib(-1), NibLetters.OUTSIDE);
+        Checks.stroke(x, 10, 4, 10, 12);
+        // straight down, twist is -8 u: 4 u u is no less than 16 from u 2 on
+        nibDue(x, "straight down", 2, -6, 0);
+        x.limit(5);
+        nibDue(x, "straight down, limit 5", 3, -6, 0);
+        x.limit(20);
+        nibDue(x, "no nib is thick enough", 0, -6, 1);
+        x.limit(4);
+        Checks.stroke(x, 10, 12, 10, 4);
+        nibDue(x, "down and up the same way", 0, -6, 1);
+        x.undo();
+        Checks.stroke(x, 4, 12, 12, 4);
+        // up to the right, (8, -8): twist 8 (v + u), full from |u + v| 3 on (4 * 9 / 2 = 18)
+        nibDue(x, "down, and up to the right", 2, -4, 0);
+        checks.due("nothing was changed", x.ofNib(1), -2);
+        checks.due("nothing of the strokes, either", x.ofStroke(0, 2), -2);
+    }
+
+    private static void limitDue(NibLetters x, String told, int limit, int wrong) {
+        checks.due(told, x.bestLimit(0), limit);
+        checks.due(told + ", wrong", x.bestLimit(1), wrong);
+    }
+
+    private static void bestLimit() {
+        NibLetters x = new NibLetters();
+        limitDue(x, "an empty sheet", 1, 0);
+        checks.due("what 2", x.bestLimit(2), NibLetters.OUTSIDE);
+        checks.due("what -1", x.bestLimit(-1), NibLetters.OUTSIDE);
+        x.nib(3, 0);
+        Checks.stroke(x, 10, 12, 10, 4);
+        // up, 36 thick: full up to limit 6
+        limitDue(x, "up", 7, 0);
+        x.nib(5, 0);
+        Checks.stroke(x, 10, 4, 10, 12);
+        // down, 100 thick: full up to limit 10
+        limitDue(x, "up thinner than down", 7, 0);
+        x.nib(2, 0);
+        Checks.stroke(x, 20, 4, 20, 12);
+        limitDue(x, "down thinner than up: either is wrong", 1, 1);
+        Checks.stroke(x, 20, 12, 20, 4);
+        limitDue(x, "one up more", 7, 1);
+        x.limit(13);
+        limitDue(x, "whatever the limit is", 7, 1);
+        checks.due("which stays", x.many(5), 13);
+        NibLetters y = new NibLetters();
+        y.nib(6, 6);
+        Checks.stroke(y, 4, 12, 12, 4);
+        limitDue(y, "up, 288 thick", 17, 0);
+    }
+}
