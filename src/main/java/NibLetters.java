@@ -160,8 +160,8 @@ public final class NibLetters {
         if (!within(which, 0, 1)) {
             return OUTSIDE;
         }
-        int upper = stroke.thickUpper(i, stroke.u, stroke.v);
-        int lower = stroke.thickLower(i);
+        int upper = Stroke.thickUpper(stroke.stepX(i), stroke.stepY(i), stroke.u, stroke.v);
+        int lower = Stroke.thickLower(stroke.stepX(i), stroke.stepY(i));
         int divisor = greatestDivisor(upper, lower);
         if (divisor == 0) {
             return 0;
@@ -174,7 +174,7 @@ public final class NibLetters {
         if (stroke == null || !stroke.hasStep(i)) {
             return UNKNOWN;
         }
-        return stroke.sortOf(i, stroke.u, stroke.v, limitNow);
+        return Stroke.sortOf(stroke.stepX(i), stroke.stepY(i), stroke.u, stroke.v, limitNow);
     }
 
     public int wrong() {
@@ -638,38 +638,35 @@ public final class NibLetters {
             return hasStep(i) ? ys[i + 1] - ys[i] : 0;
         }
 
-        int thickUpper(int i, int nibU, int nibV) {
-            int twist = stepX(i) * nibV - stepY(i) * nibU;
+        static int thickUpper(int dx, int dy, int nibU, int nibV) {
+            int twist = dx * nibV - dy * nibU;
             return 4 * twist * twist;
         }
 
-        int thickLower(int i) {
-            int dx = stepX(i);
-            int dy = stepY(i);
+        static int thickLower(int dx, int dy) {
             return dx * dx + dy * dy;
         }
 
-        int sortOf(int i, int nibU, int nibV, int limit) {
-            int upper = thickUpper(i, nibU, nibV);
+        static int sortOf(int dx, int dy, int nibU, int nibV, int limit) {
+            int upper = thickUpper(dx, dy, nibU, nibV);
             if (upper == 0) {
                 return SORT_HAIR;
             }
-            return upper >= limit * limit * thickLower(i) ? SORT_FULL : SORT_THIN;
+            return upper >= limit * limit * thickLower(dx, dy) ? SORT_FULL : SORT_THIN;
         }
 
-        private boolean isWrong(int i, int nibU, int nibV, int limit) {
-            int dy = stepY(i);
+        private static boolean isWrong(int dx, int dy, int nibU, int nibV, int limit) {
             if (dy == 0) {
                 return false;
             }
-            boolean isFull = sortOf(i, nibU, nibV, limit) == SORT_FULL;
+            boolean isFull = sortOf(dx, dy, nibU, nibV, limit) == SORT_FULL;
             return dy > 0 ? !isFull : isFull;
         }
 
         int countWrong(int nibU, int nibV, int limit) {
             int sum = 0;
             for (int i = 0; i + 1 < count; i++) {
-                if (isWrong(i, nibU, nibV, limit)) {
+                if (isWrong(stepX(i), stepY(i), nibU, nibV, limit)) {
                     sum++;
                 }
             }
@@ -681,7 +678,7 @@ public final class NibLetters {
             int code = 0;
             int last = NONE;
             for (int i = 0; i + 1 < count; i++) {
-                int next = sortOf(i, u, v, limit);
+                int next = sortOf(stepX(i), stepY(i), u, v, limit);
                 if (next != last) {
                     code = code * 4 + next + 1;
                     last = next;
@@ -706,6 +703,12 @@ public final class NibLetters {
             return other.hasInk(xs[0], ys[0]) || other.hasInk(xs[count - 1], ys[count - 1]);
         }
 
+        void addInkTo(int[] sum) {
+            for (int y = 0; y < SIDE; y++) {
+                sum[y] |= rows[y];
+            }
+        }
+
         boolean crossesInkOf(Stroke other) {
             for (int y = 0; y < SIDE; y++) {
                 if ((rows[y] & other.rows[y]) != 0) {
@@ -716,13 +719,13 @@ public final class NibLetters {
         }
     }
 
-    /** STROKES in their order: THE SHEET, or those of a LETTER. */
+    /** STROKES in their order: THE SHEET, or those of a LETTER. Where there is none, there is null. */
     private static final class Page {
         private final Stroke[] strokes = new Stroke[MOST_STROKES];
         private int count = 0;
 
         Stroke at(int k) {
-            return within(k, 0, count - 1) ? strokes[k] : null;
+            return within(k, 0, MOST_STROKES - 1) ? strokes[k] : null;
         }
 
         void add(Stroke stroke) {
@@ -735,50 +738,59 @@ public final class NibLetters {
         void removeLast() {
             if (count > 0) {
                 count--;
+                strokes[count] = null;
             }
         }
 
         void clear() {
+            for (int k = 0; k < MOST_STROKES; k++) {
+                strokes[k] = null;
+            }
             count = 0;
         }
 
         void copyFrom(Page other) {
-            clear();
-            for (int k = 0; k < other.count; k++) {
-                add(other.strokes[k]);
+            for (int k = 0; k < MOST_STROKES; k++) {
+                strokes[k] = other.strokes[k];
             }
+            count = other.count;
         }
 
         void gatherInk(int[] rows) {
             Arrays.fill(rows, 0);
-            for (int k = 0; k < count; k++) {
-                Stroke stroke = strokes[k];
-                for (int y = 0; y < SIDE; y++) {
-                    rows[y] |= stroke.rows[y];
+            for (Stroke stroke : strokes) {
+                if (stroke != null) {
+                    stroke.addInkTo(rows);
                 }
             }
         }
 
         int countSteps() {
             int sum = 0;
-            for (int k = 0; k < count; k++) {
-                sum += strokes[k].countSteps();
+            for (Stroke stroke : strokes) {
+                if (stroke != null) {
+                    sum += stroke.countSteps();
+                }
             }
             return sum;
         }
 
         int countWrong(int limit) {
             int sum = 0;
-            for (int k = 0; k < count; k++) {
-                sum += strokes[k].countWrong(strokes[k].u, strokes[k].v, limit);
+            for (Stroke stroke : strokes) {
+                if (stroke != null) {
+                    sum += stroke.countWrong(stroke.u, stroke.v, limit);
+                }
             }
             return sum;
         }
 
         int countWrongWithNib(int nibU, int nibV, int limit) {
             int sum = 0;
-            for (int k = 0; k < count; k++) {
-                sum += strokes[k].countWrong(nibU, nibV, limit);
+            for (Stroke stroke : strokes) {
+                if (stroke != null) {
+                    sum += stroke.countWrong(nibU, nibV, limit);
+                }
             }
             return sum;
         }
@@ -850,8 +862,10 @@ public final class NibLetters {
         }
 
         void addAll(Page page, int limit) {
-            for (int k = 0; k < page.count; k++) {
-                add(page.strokes[k].kindCode(limit));
+            for (Stroke stroke : page.strokes) {
+                if (stroke != null) {
+                    add(stroke.kindCode(limit));
+                }
             }
         }
 
