@@ -4,6 +4,7 @@ public final class BestTest {
 
     public static void main(String[] args) {
         bestNib();
+        bestNibAtItsBounds();
         bestLimit();
         checks.end();
     }
@@ -35,6 +36,24 @@ public final class BestTest {
         nibDue(x, "down, and up to the right", 2, -4, 0);
         checks.due("nothing was changed", x.ofNib(1), -2);
         checks.due("nothing of the strokes, either", x.ofStroke(0, 2), -2);
+    }
+
+    private static void bestNibAtItsBounds() {
+        NibLetters x = new NibLetters();
+        x.limit(16);
+        Checks.stroke(x, 20, 4, 10, 14);
+        // (-10, 10): 288 thick with (6, 6), less than 256 with any other
+        nibDue(x, "the last one of all", 6, 6, 0);
+        NibLetters y = new NibLetters();
+        y.limit(1);
+        Checks.stroke(y, 10, 4, 10, 12, 18, 11, 10, 10);
+        // up (8, -1) and (-8, -1): 8 v + u, 8 v - u stay within 4
+        nibDue(y, "v 0", 1, 0, 0);
+        NibLetters z = new NibLetters();
+        z.limit(1);
+        Checks.stroke(z, 10, 10, 18, 11, 19, 3);
+        // down (8, 1), up (1, -8): v + 8 u stays within 4
+        nibDue(z, "u 0", 0, -4, 0);
     }
 
     private static void limitDue(NibLetters x, String told, int limit, int wrong) {

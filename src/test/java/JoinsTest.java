@@ -5,8 +5,12 @@ public final class JoinsTest {
     public static void main(String[] args) {
         join();
         joinByEnds();
+        joinByAnEndInInk();
         pieces();
+        piecesByCorners();
         counters();
+        countersAtTheEdges();
+        everyPlaceInked();
         checks.end();
     }
 
@@ -56,6 +60,30 @@ public final class JoinsTest {
         both(x, "side by side, nothing in common", 0, 2, 0);
     }
 
+    private static void joinByAnEndInInk() {
+        int[][] posts = {{12, 4, 12, 10}, {12, 10, 12, 4}, {12, 16, 12, 10}, {12, 10}, {3, 4, 3, 10}, {21, 10, 21, 20}};
+        for (int[] post : posts) {
+            NibLetters x = new NibLetters();
+            x.nib(1, 0);
+            Checks.stroke(x, 4, 10, 20, 10);
+            x.nib(0, 1);
+            Checks.stroke(x, post);
+            both(x, "either end in the ink of the other one", 0, 1, 2);
+        }
+        NibLetters x = new NibLetters();
+        x.nib(0, 1);
+        Checks.stroke(x, 4, 0, 9, 0);
+        Checks.stroke(x, 6, 1, 7, 3, 12, 1);
+        both(x, "the first end in row 1", 0, 1, 2);
+        Checks.stroke(x, 9, 2, 12, 2);
+        both(x, "ink beside an end", 0, 2, 1);
+        Checks.stroke(x, 10, 0, 31, 0);
+        both(x, "ink that touches only", 0, 3, 0);
+        x.nib(0, 1);
+        Checks.stroke(x, 31, 1);
+        both(x, "at the right edge", 3, 4, 2);
+    }
+
     private static void pieces() {
         NibLetters x = new NibLetters();
         checks.due("pieces of nothing", x.pieces(0), 0);
@@ -76,6 +104,58 @@ public final class JoinsTest {
         Checks.stroke(x, 0, 31);
         Checks.stroke(x, 31, 30);
         checks.due("left and right edges do not hang together", x.pieces(0), 7);
+    }
+
+    private static void piecesByCorners() {
+        int[] tops = {5, 9};
+        for (int top : tops) {
+            NibLetters x = new NibLetters();
+            x.nib(1, 1);
+            Checks.stroke(x, 5, 8, 8, 11);
+            x.nib(1, -1);
+            Checks.stroke(x, 10, 11, 10 + 11 - top, top);
+            checks.due("a V of hair lines", x.pieces(0), 1);
+            x.nib(1, 1);
+            Checks.stroke(x, 12, 15, 14, 17);
+            checks.due("a hair line for itself", x.pieces(0), 2);
+        }
+    }
+
+    private static void countersAtTheEdges() {
+        int[][] bays = {
+            {10, 0, 10, 5, 16, 5, 16, 0}, {10, 31, 10, 26, 16, 26, 16, 31},
+            {0, 12, 5, 12, 5, 18, 0, 18}, {31, 12, 26, 12, 26, 18, 31, 18}};
+        for (int[] bay : bays) {
+            NibLetters x = new NibLetters();
+            x.nib(1, 0);
+            Checks.stroke(x, bay);
+            checks.due("a bay at an edge", x.pieces(1), 0);
+            Checks.stroke(x, bay[0], bay[1], bay[6], bay[7]);
+            checks.due("closed at the edge", x.pieces(1), 1);
+        }
+        NibLetters corner = new NibLetters();
+        corner.nib(1, 1);
+        Checks.stroke(corner, 0, 1);
+        Checks.stroke(corner, 1, 0);
+        // (0, 0) and (1, 1) are closed in, one by one
+        checks.due("a corner of the field is at its edge", corner.pieces(1), 1);
+    }
+
+    private static void everyPlaceInked() {
+        NibLetters x = new NibLetters();
+        x.nib(0, 6);
+        Checks.stroke(x, 0, 6, 31, 6, 31, 19, 0, 19, 0, 27, 31, 27);
+        checks.due("every place is inked", x.area(-1), 1024);
+        checks.due("one piece", x.pieces(0), 1);
+        checks.due("no counter", x.pieces(1), 0);
+        x.keep(0);
+        checks.due("an empty sheet, every place apart", x.fit(0, 0), 1024);
+        checks.due("a of that", x.fit(0, 1), -3);
+        checks.due("b of that", x.fit(0, 2), -3);
+        checks.due("likest", x.likest(0), 0);
+        checks.due("likest, apart", x.likest(1), 1024);
+        checks.due("least x", x.ofLetter(0, 5), 0);
+        checks.due("greatest x", x.ofLetter(0, 6), 31);
     }
 
     private static void counters() {

@@ -1,3 +1,6 @@
+import java.util.ArrayList;
+import java.util.List;
+
 /** Promises 18 to 27: LETTERS, KINDS, APART, FIT, LIKEST and LESSONS. */
 public final class LettersTest {
     private static final Checks checks = new Checks("LettersTest");
@@ -11,6 +14,7 @@ public final class LettersTest {
         ofLetter();
         kind();
         kindOrder();
+        everyKindUnlike();
         apart();
         fit();
         likest();
@@ -189,6 +193,48 @@ public final class LettersTest {
         checks.due("so two are alike", x.kind(2), 1);
         checks.due("and one has become full alone", x.kind(4), 0);
         checks.due("which the first one is, too", x.kind(0), 0);
+    }
+
+    /** Leads the pen by one step for each sort of a kind, with the nib (3, 0) and the limit 4. */
+    private static void draw(NibLetters x, String kind) {
+        int[] places = new int[2 * kind.length() + 2];
+        for (int i = 0; i < kind.length(); i++) {
+            int sort = kind.charAt(i) - '0';
+            places[2 * i + 2] = places[2 * i] + (sort == 0 ? 1 : sort == 1 ? 3 : 0);
+            places[2 * i + 3] = places[2 * i + 1] + (sort == 0 ? 0 : 1);
+        }
+        Checks.stroke(x, places);
+    }
+
+    /** All 66 strokes that there can be, in the order of their kinds, no two of which are alike. */
+    private static void everyKindUnlike() {
+        List<String> kinds = new ArrayList<>(List.of(""));
+        for (int i = 0; kinds.size() < 66; i++) {
+            for (char sort = '0'; sort <= '2'; sort++) {
+                if (!kinds.get(i).endsWith(String.valueOf(sort))) {
+                    kinds.add(kinds.get(i) + sort);
+                }
+            }
+        }
+        NibLetters x = new NibLetters();
+        x.nib(3, 0);
+        for (int i = 0; i < 66; i++) {
+            draw(x, kinds.get(i));
+            if (i % 6 == 5 && i < 60) {
+                x.keep(i / 6);
+            }
+        }
+        checks.due("66 kinds", x.many(4), 66);
+        for (int k = 0; k < 6; k++) {
+            checks.due("the last ones of them", x.kind(k), 60 + k);
+            checks.due("how long they are", x.ofStroke(k, 3), kinds.get(60 + k).length());
+        }
+        for (int name = 0; name < 10; name++) {
+            checks.due("lessons as they are named", x.lesson(name, 0), name);
+            checks.due("all of whose kinds are new", x.lesson(name, 1), 6);
+        }
+        x.keep(9);
+        checks.due("60 kinds", x.many(4), 60);
     }
 
     private static void apart() {
