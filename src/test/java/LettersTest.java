@@ -259,12 +259,34 @@ public final class LettersTest {
         checks.due("b -32", x.apart(2, 0, -32), NibLetters.OUTSIDE);
         checks.due("no such letter, and outside", x.apart(3, 32, 0), NibLetters.UNKNOWN);
         checks.due("letter 26", x.apart(26, 0, 0), NibLetters.UNKNOWN);
+        apartAtTheEdges();
         NibLetters y = new NibLetters();
         Checks.letter(y, 0, 1, 0, 10, 10);
         y.nib(1, 0);
         Checks.stroke(y, 12, 7);
         checks.due("moved onto it", y.apart(0, -2, 3), 0);
         checks.due("moved the other way", y.apart(0, 2, -3), 6);
+    }
+
+    private static void apartAtTheEdges() {
+        NibLetters x = new NibLetters();
+        Checks.letter(x, 0, 1, 0, 16, 0, 20, 0);
+        x.nib(1, 0);
+        Checks.stroke(x, 16, 31, 20, 31);
+        checks.due("from the last row to the first", x.apart(0, 0, -31), 0);
+        x.keep(1);
+        x.take(0);
+        checks.due("from the first row to the last", x.apart(1, 0, 31), 0);
+        x.undo();
+        Checks.letter(x, 2, 1, 0, 0, 5);
+        checks.due("a letter at x 0", x.ofLetter(2, 5), 0);
+        checks.due("ends at x 1", x.ofLetter(2, 6), 1);
+        Checks.stroke(x, 31, 5);
+        // x 30, 31 become 0, 1
+        checks.due("from the right edge to the left one", x.apart(2, -30, 0), 0);
+        x.undo();
+        Checks.letter(x, 3, 0, 1, 0, 5);
+        checks.due("a letter of x 0 alone", x.ofLetter(3, 6), 0);
     }
 
     private static void fit() {

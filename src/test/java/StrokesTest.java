@@ -74,6 +74,7 @@ public final class StrokesTest {
     private static void point() {
         NibLetters x = new NibLetters();
         checks.due("point(0, 0)", x.point(0, 0), 1);
+        checks.due("the same as the first", x.point(0, 0), NibLetters.STATE);
         checks.due("point(31, 31)", x.point(31, 31), 2);
         checks.due("the same", x.point(31, 31), NibLetters.STATE);
         checks.due("the same x", x.point(31, 0), 3);
@@ -264,6 +265,7 @@ public final class StrokesTest {
         NibLetters x = new NibLetters();
         Checks.stroke(x, 0, 0);
         checks.due("a corner, across", x.area(0), 1);
+        checks.due("row 0", x.ink(0, 0), 1);
         x.nib(2, 2);
         Checks.stroke(x, 31, 31);
         checks.due("a corner, inwards", x.area(1), 3);
