@@ -627,7 +627,7 @@ public final class NibLetters {
         }
 
         boolean hasStep(int i) {
-            return within(i, 0, count - 2);
+            return i >= 0 && i < count - 1;
         }
 
         int stepX(int i) {
@@ -1041,19 +1041,15 @@ public final class NibLetters {
                 if (letter == null || (taught >>> name & 1) != 0) {
                     continue;
                 }
-                int found = countNewKinds(letter, limit);
+                own.clear();
+                own.addAll(letter, limit);
+                int found = own.countNotIn(known);
                 if (next == NONE || found < newKinds) {
                     next = name;
                     newKinds = found;
                 }
             }
             return next;
-        }
-
-        private int countNewKinds(Page letter, int limit) {
-            own.clear();
-            own.addAll(letter, limit);
-            return own.countNotIn(known);
         }
     }
 
