@@ -175,6 +175,19 @@ public final class BoundsBestTest {
     }
 
     private static void bestLimitAtItsBounds() {
+        rule("Part 5: LIMIT 1, and the next one", """
+                nib(1, 0)
+                draw(10, 12, 13, 11) // up, 4 of 10: FULL by none
+                bestLimit(0) = 1
+                bestLimit(1) = 0
+                draw(10, 12, 13, 8) // up, 64 of 25: FULL by 1 alone
+                bestLimit(0) = 2
+                bestLimit(1) = 0
+                draw(20, 4, 23, 8) // down, as thick
+                draw(20, 4, 23, 8)
+                bestLimit(0) = 1
+                bestLimit(1) = 1
+                """);
         rule("Part 5: the greatest LIMIT that any STEP asks for", """
                 nib(6, 6)
                 draw(4, 12, 12, 4) // up, 288: FULL up to 16

@@ -194,10 +194,10 @@ public final class BoundsFitsTest {
         rule("Promise 25: OUTSIDE, what is 0 .. 2", """
                 draw(9, 9)
                 keep(25)
-                draw(10, 11)
+                draw(8, 6)
                 fit(25, 0) ! 0
-                fit(25, 1) ! -1
-                fit(25, 2) ! -2
+                fit(25, 1) ! 1
+                fit(25, 2) ! 3
                 fit(25, 3) ! OUTSIDE
                 fit(25, -1) ! OUTSIDE
                 fit(25, MIN) ! OUTSIDE

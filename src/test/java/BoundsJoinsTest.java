@@ -14,6 +14,7 @@ public final class BoundsJoinsTest {
         counters();
         countersAtTheEdges();
         countersBesideTheEdges();
+        countersBesideBays();
         checks.end();
     }
 
@@ -155,6 +156,30 @@ public final class BoundsJoinsTest {
                 join(0, 4) = 1 // one place, (10, 20)
                 draw(11, 21, 11, 30)
                 join(0, 5) = 0
+                """);
+        rule("Part 3: some place, be it of the first or of the last row", """
+                nib(1, 1)
+                draw(10, 1) // (9, 0), (10, 1), (11, 2)
+                nib(1, -1)
+                draw(8, 1) // (9, 0), (8, 1), (7, 2)
+                join(0, 1) = 1
+                join(1, 0) = 1
+                draw(10, 30) // (11, 29), (10, 30), (9, 31)
+                nib(1, 1)
+                draw(8, 30) // (7, 29), (8, 30), (9, 31)
+                join(2, 3) = 1
+                join(3, 2) = 1
+                """);
+        rule("Part 3: some place, be it of the first or of the last column", """
+                nib(1, 1)
+                draw(1, 10) // (0, 9), (1, 10), (2, 11)
+                nib(1, -1)
+                draw(1, 8) // (2, 7), (1, 8), (0, 9)
+                join(0, 1) = 1
+                draw(30, 10) // (31, 9), (30, 10), (29, 11)
+                nib(1, 1)
+                draw(30, 8) // (29, 7), (30, 8), (31, 9)
+                join(2, 3) = 1
                 """);
         rule("Part 3: lines that cross between places have no place of both", """
                 nib(1, 1)
@@ -338,6 +363,17 @@ public final class BoundsJoinsTest {
             {"(1, 30)", "nib(1, -1)\ndraw(0, 30)\ndraw(1, 31)\n"}};
         for (String[] ring : rings) {
             rule("Part 3: " + ring[0] + " is not at an edge", ring[1] + "area(-1) = 4\npieces(1) = 1\n");
+        }
+    }
+
+    private static void countersBesideBays() {
+        String[][] bays = {
+            {"(0, 10), (1, 11)", "nib(1, 1)\ndraw(1, 10)\ndraw(0, 11)\n"},
+            {"(31, 10), (30, 11)", "nib(1, -1)\ndraw(30, 10)\ndraw(31, 11)\n"},
+            {"(10, 0), (11, 1)", "nib(1, 1)\ndraw(10, 1)\ndraw(11, 0)\n"},
+            {"(10, 31), (11, 30)", "nib(1, -1)\ndraw(10, 30)\ndraw(11, 31)\n"}};
+        for (String[] bay : bays) {
+            rule("Part 3: by sides alone, so a corner at a bay opens none: " + bay[0], bay[1] + "area(-1) = 5\npieces(1) = 1\n");
         }
     }
 }

