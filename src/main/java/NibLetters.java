@@ -688,19 +688,19 @@ public final class NibLetters {
         }
 
         private boolean hasEnd(int x, int y) {
-            return xs[0] == x && ys[0] == y || xs[count - 1] == x && ys[count - 1] == y;
+            return count > 0 && (xs[0] == x && ys[0] == y || xs[count - 1] == x && ys[count - 1] == y);
         }
 
         private boolean hasInk(int x, int y) {
-            return (rows[y] >>> x & 1) != 0;
+            return within(x, 0, SIDE - 1) && within(y, 0, SIDE - 1) && (rows[y] >>> x & 1) != 0;
         }
 
         boolean sharesEndWith(Stroke other) {
-            return other.hasEnd(xs[0], ys[0]) || other.hasEnd(xs[count - 1], ys[count - 1]);
+            return count > 0 && (other.hasEnd(xs[0], ys[0]) || other.hasEnd(xs[count - 1], ys[count - 1]));
         }
 
         boolean hasEndInInkOf(Stroke other) {
-            return other.hasInk(xs[0], ys[0]) || other.hasInk(xs[count - 1], ys[count - 1]);
+            return count > 0 && (other.hasInk(xs[0], ys[0]) || other.hasInk(xs[count - 1], ys[count - 1]));
         }
 
         void addInkTo(int[] sum) {
